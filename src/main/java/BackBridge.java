@@ -335,7 +335,7 @@ public final class BackBridge {
     // ---- errands
 
     public int inTime() {
-        return choices.timely(world.shut);
+        return choices.timely();
     }
 
     public int spare(int p) {
@@ -1740,7 +1740,7 @@ public final class BackBridge {
         final World world;
         final Search search;
         final int[] firstDays = new int[PLACES];
-        int used;
+        final int[] used = new int[PEOPLE];
         long dryAbove;
         long dryBelow;
 
@@ -1813,18 +1813,16 @@ public final class BackBridge {
             return Math.max(NONE, land.by[p] - world.day[p] - days);
         }
 
-        /** Errands done or in time, these roads being closed; the roads used for that are kept. */
-        int timely(int closed) {
+        /** Errands done or in time, as bits; the roads of each soonest way by which one is are kept. */
+        int timely() {
             int bits = world.done;
-            used = 0;
+            Arrays.fill(used, 0);
             for (int p = 0; p < land.people; p++) {
                 if (hasToDo(p)) {
-                    search.startAt(world, p);
-                    search.closed = closed;
-                    search.spread();
+                    seek(p);
                     if (daysToWait(p) != NONE) {
                         bits |= 1 << p;
-                        used |= search.roadsTo(land.errand[p]);
+                        used[p] = search.roadsTo(land.errand[p]);
                     }
                 }
             }
@@ -1848,21 +1846,32 @@ public final class BackBridge {
             return NONE;
         }
 
-        /** Only a road that a soonest way goes along can make one late. */
         int worstRoad() {
-            int fewest = Integer.bitCount(timely(world.shut));
-            int onWays = used;
+            timely();
+            int most = 0;
             int road = NONE;
             for (int r = 0; r < land.roads; r++) {
-                if ((onWays >> r & 1) == 1) {
-                    int left = Integer.bitCount(timely(world.shut | 1 << r));
-                    if (left < fewest) {
-                        fewest = left;
-                        road = r;
-                    }
+                int late = lateWithout(r);
+                if (late > most) {
+                    most = late;
+                    road = r;
                 }
             }
             return road;
+        }
+
+        /** How many that are in time would not be; only who would go along a road can be late without it. */
+        private int lateWithout(int r) {
+            int late = 0;
+            for (int p = 0; p < land.people; p++) {
+                if ((used[p] >> r & 1) == 1) {
+                    search.startAt(world, p);
+                    search.closed |= 1 << r;
+                    search.spread();
+                    late += daysToWait(p) == NONE ? 1 : 0;
+                }
+            }
+            return late;
         }
 
         /** The days times PLACES, and the place, or NONE. */
