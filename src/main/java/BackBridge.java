@@ -752,7 +752,7 @@ public final class BackBridge {
             names[BEEN] = been >> end & 1;
             names[3] = Integer.bitCount(been);
             names[4] = papers;
-            names[5] = land.across(r, end);
+            names[5] = land.to[r] == end ? land.from[r] : land.to[r];
             names[6] = end;
         }
     }
@@ -1819,7 +1819,8 @@ public final class BackBridge {
             Arrays.fill(used, 0);
             for (int p = 0; p < land.people; p++) {
                 if (hasToDo(p)) {
-                    seek(p);
+                    search.startAt(world, p);
+                    search.spread();
                     if (daysToWait(p) != NONE) {
                         bits |= 1 << p;
                         used[p] = search.roadsTo(land.errand[p]);

@@ -1,0 +1,218 @@
+import com.sun.source.tree.ClassTree;
+import com.sun.source.tree.CompilationUnitTree;
+import com.sun.source.tree.IdentifierTree;
+import com.sun.source.tree.ImportTree;
+import com.sun.source.tree.LambdaExpressionTree;
+import com.sun.source.tree.MemberReferenceTree;
+import com.sun.source.tree.MemberSelectTree;
+import com.sun.source.tree.MethodInvocationTree;
+import com.sun.source.tree.MethodTree;
+import com.sun.source.tree.NewClassTree;
+import com.sun.source.tree.ThrowTree;
+import com.sun.source.tree.Tree;
+import com.sun.source.tree.TryTree;
+import com.sun.source.tree.VariableTree;
+import com.sun.source.util.JavacTask;
+import com.sun.source.util.SourcePositions;
+import com.sun.source.util.TreePathScanner;
+import com.sun.source.util.Trees;
+import java.io.File;
+import java.util.ArrayDeque;
+import java.util.Deque;
+import java.util.HashMap;
+import java.util.HashSet;
+import java.util.List;
+import java.util.Map;
+import java.util.Set;
+import java.util.TreeSet;
+import javax.lang.model.element.Modifier;
+import javax.tools.JavaCompiler;
+import javax.tools.StandardJavaFileManager;
+import javax.tools.ToolProvider;
+
+/** Those rules of the language that can be seen from the source: LANGUAGE.md, rules 1, 2, 4, 5, 6, 11. */
+public final class RulesTest {
+    private static final Set<String> FACE = Set.of("feed", "land", "fault", "person", "road", "why", "takes", "go",
+            "give", "forge", "shut", "days", "undo", "judge", "perform", "year", "soonest", "way", "left", "reach",
+            "ways", "needed", "proofs", "waives", "inTime", "spare", "helped", "worst", "loophole", "loopWay", "round",
+            "crosses", "meet", "meetAt", "shoes", "sure", "ask", "dry", "safest", "numbers", "write", "lists", "image",
+            "restore", "count", "<init>");
+    private static final Set<String> LIBRARY = Set.of("Arrays.fill", "System.arraycopy", "Math.max", "Math.min",
+            "Integer.bitCount", "Long.bitCount", "length", "charAt", "indexOf");
+
+    private static final Map<String, Set<String>> CALLS = new HashMap<>();
+    private static final Set<String> OWN = new HashSet<>();
+    private static final Set<String> OUTSIDE = new TreeSet<>();
+
+    public static void main(String[] args) throws Exception {
+        JavaCompiler compiler = ToolProvider.getSystemJavaCompiler();
+        try (StandardJavaFileManager files = compiler.getStandardFileManager(null, null, null)) {
+            JavacTask task = (JavacTask) compiler.getTask(null, files, null, List.of("-proc:none"), null,
+                    files.getJavaFileObjects(new File("src/main/java/BackBridge.java")));
+            Trees trees = Trees.instance(task);
+            for (CompilationUnitTree unit : task.parse()) {
+                new Scan(unit, trees.getSourcePositions()).scan(unit, null);
+            }
+        }
+        for (String call : OUTSIDE) {
+            String name = call.substring(call.indexOf('.') + 1);
+            if (!OWN.contains(name) && !LIBRARY.contains(call) && !LIBRARY.contains(name)) {
+                Told.due("a call outside the library: " + call, 1, 0);
+            }
+        }
+        for (String name : FACE) {
+            int depth = depth(name, new ArrayDeque<>());
+            if (depth > 8) {
+                Told.due("calls too deep from " + name, depth, 8);
+            }
+        }
+        Told.end();
+    }
+
+    /** Calls by name that stand open at once; one that stands open already is recursion. */
+    private static int depth(String name, Deque<String> open) {
+        if (open.contains(name)) {
+            return 0;
+        }
+        open.push(name);
+        int deepest = 0;
+        for (String called : CALLS.getOrDefault(name, Set.of())) {
+            if (OWN.contains(called)) {
+                deepest = Math.max(deepest, depth(called, open));
+            }
+        }
+        open.pop();
+        return deepest + 1;
+    }
+
+    private static final class Scan extends TreePathScanner<Void, Void> {
+        private final CompilationUnitTree unit;
+        private final SourcePositions positions;
+        private final Deque<String> methods = new ArrayDeque<>();
+        private int classes;
+
+        Scan(CompilationUnitTree unit, SourcePositions positions) {
+            this.unit = unit;
+            this.positions = positions;
+        }
+
+        private void wrong(String what) {
+            Told.due(what, 1, 0);
+        }
+
+        private long line(long position) {
+            return unit.getLineMap().getLineNumber(position);
+        }
+
+        @Override
+        public Void visitImport(ImportTree tree, Void v) {
+            if (!tree.getQualifiedIdentifier().toString().equals("java.util.Arrays")) {
+                wrong("import " + tree.getQualifiedIdentifier());
+            }
+            return null;
+        }
+
+        @Override
+        public Void visitClass(ClassTree tree, Void v) {
+            classes++;
+            Set<Modifier> flags = tree.getModifiers().getFlags();
+            if (classes > 12) {
+                wrong("too many classes: " + tree.getSimpleName());
+            }
+            if (classes > 1 && !flags.contains(Modifier.STATIC)) {
+                wrong("a class inside that isn't static: " + tree.getSimpleName());
+            }
+            int fields = 0;
+            for (Tree member : tree.getMembers()) {
+                if (member instanceof VariableTree field) {
+                    boolean constant = field.getModifiers().getFlags().contains(Modifier.STATIC);
+                    fields += constant ? 0 : 1;
+                    if (constant && !field.getModifiers().getFlags().contains(Modifier.FINAL)) {
+                        wrong("static state: " + field.getName());
+                    }
+                    checkFace(classes, field.getName().toString(), field.getModifiers().getFlags());
+                }
+            }
+            if (fields > 20) {
+                wrong("too many fields in " + tree.getSimpleName());
+            }
+            return super.visitClass(tree, v);
+        }
+
+        private void checkFace(int inClass, String name, Set<Modifier> flags) {
+            if (inClass == 1 && !flags.contains(Modifier.PRIVATE) && !name.equals("NONE") && !FACE.contains(name)) {
+                wrong("a member beside the face: " + name);
+            }
+        }
+
+        @Override
+        public Void visitMethod(MethodTree tree, Void v) {
+            String name = tree.getName().toString();
+            Set<Modifier> flags = tree.getModifiers().getFlags();
+            boolean inFace = flags.contains(Modifier.PUBLIC);
+            OWN.add(name);
+            if (FACE.contains(name) && !inFace && !name.equals("<init>")) {
+                wrong("a method named as one of the face: " + name);
+            }
+            if (inFace && !FACE.contains(name)) {
+                wrong("a public method beside the face: " + name);
+            }
+            if (tree.getParameters().size() > 7) {
+                wrong("too many parameters: " + name);
+            }
+            long lines = line(positions.getEndPosition(unit, tree)) - line(positions.getStartPosition(unit, tree)) + 1;
+            if (lines > 60) {
+                wrong("too long: " + name);
+            }
+            methods.push(name);
+            super.visitMethod(tree, v);
+            methods.pop();
+            return null;
+        }
+
+        @Override
+        public Void visitMethodInvocation(MethodInvocationTree tree, Void v) {
+            Tree called = tree.getMethodSelect();
+            String name = called instanceof MemberSelectTree select ? select.getIdentifier().toString()
+                    : ((IdentifierTree) called).getName().toString();
+            OUTSIDE.add(called instanceof MemberSelectTree select && select.getExpression() instanceof IdentifierTree
+                    ? called.toString() : name);
+            if (!methods.isEmpty()) {
+                CALLS.computeIfAbsent(methods.peek(), k -> new HashSet<>()).add(name);
+            }
+            return super.visitMethodInvocation(tree, v);
+        }
+
+        @Override
+        public Void visitNewClass(NewClassTree tree, Void v) {
+            if (tree.getClassBody() != null) {
+                wrong("an anonymous class");
+            }
+            return super.visitNewClass(tree, v);
+        }
+
+        @Override
+        public Void visitLambdaExpression(LambdaExpressionTree tree, Void v) {
+            wrong("a lambda");
+            return null;
+        }
+
+        @Override
+        public Void visitMemberReference(MemberReferenceTree tree, Void v) {
+            wrong("a method reference");
+            return null;
+        }
+
+        @Override
+        public Void visitThrow(ThrowTree tree, Void v) {
+            wrong("throw");
+            return null;
+        }
+
+        @Override
+        public Void visitTry(TryTree tree, Void v) {
+            wrong("try");
+            return null;
+        }
+    }
+}
