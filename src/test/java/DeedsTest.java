@@ -280,6 +280,8 @@ public final class DeedsTest {
         due("no call", b.count(8), 1);
         due("undone as a whole", b.undo(1), 0);
         due("place", b.person(0, 0), 0);
+        due("papers", b.person(0, 2), 2);
+        due("papers of another", b.person(1, 2), 8);
         due("day of another", b.person(1, 1), 0);
         b.numbers(1, 3, 40);
         for (int i = 0; i < 40; i++) {
@@ -291,6 +293,12 @@ public final class DeedsTest {
         b.numbers(2, 0, 0);
         due("an empty tray", b.perform(2), 0);
         due("no call", b.count(8), 1);
+        Told.tray(b, 2, 1, 2000, 9999);
+        due("one alone", b.perform(2), 1);
+        due("a call", b.count(8), 2);
+        due("undone", b.undo(1), 1);
+        due("papers", b.person(0, 2), 2);
+        due("day", b.person(0, 1), 20);
     }
 
     private static void years() {
@@ -305,6 +313,7 @@ public final class DeedsTest {
         int day = b.person(1, 1);
         due("undone as a whole", b.undo(1), 0);
         due("day", b.person(1, 1), 0);
+        due("papers", b.person(1, 2), 8);
         due("the same again", b.year(5, 40), done);
         due("the same day", b.person(1, 1), day);
         BackBridge c = new BackBridge();

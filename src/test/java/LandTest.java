@@ -18,6 +18,8 @@ public final class LandTest {
         tooMany();
         nesting();
         faultsAlong();
+        nothingOfEarlierLands();
+        lawsOfEach();
         people();
         roads();
         whyNot();
@@ -242,6 +244,55 @@ public final class LandTest {
         Told.land(b, "places 2;");
         due("fault is gone", b.fault(0), 0);
         due("its place is gone", b.fault(1), -1);
+    }
+
+    private static void nothingOfEarlierLands() {
+        BackBridge b = Told.of("places 3;road 0 to 1 days 1 bridge flood 7;person at 0 papers 3 to 0 by 9;"
+                + "person at 0 papers 2;lets:1=1;takes:3;");
+        due("let", b.why(0, 0), 0);
+        due("too few", b.why(1, 0), 5);
+        due("done", b.count(6), 1);
+        Told.land(b, "places 3;road 0 to 1 days 1 bridge;person at 0 papers 3 to 1 by 9;takes:4;");
+        due("another law", b.why(0, 0), 4);
+        due("another toll", b.takes(0, 0), 4);
+        due("no flood", b.road(0, 4), 0);
+        due("nothing done", b.count(6), 0);
+        due("papers together", b.count(7), 3);
+        Told.land(b, "places 3;road 0 to 1 days 1 bridge;person at 0 born 1 papers 3;");
+        due("no laws", b.why(0, 0), 0);
+        due("no toll", b.takes(0, 0), 0);
+        due("go", b.go(0, 0), 1);
+        due("no papers taken", b.person(0, 2), 3);
+        BackBridge c = Told.of("places 2;person at 0 to 0 by 0;person at 1 to 1 by 1;person at 0 to 1 by 1;");
+        due("two done", c.count(6), 2);
+        due("the first", c.person(0, 7), 1);
+        BackBridge d = Told.of("places 3;" + "road 0 to 1 days 1;".repeat(7) + "road 1 to 2 days 20 bridge flood 3;");
+        Told.land(d, "places 4;" + "road 3 to 2 days 1;".repeat(8) + "fog;");
+        due("a draft is no land", d.road(7, 4), 3);
+        due("its bridges", d.count(3), 128);
+    }
+
+    /** Both laws are asked of each person, bridge, end, papers by themselves. */
+    private static void lawsOfEach() {
+        StringBuilder text = new StringBuilder("places 6;");
+        for (int r = 0; r < 4; r++) {
+            text.append("road ").append(r).append(" to ").append(r + 1).append(" days 1 bridge;");
+        }
+        for (int p = 0; p < 6; p++) {
+            text.append("person at ").append(Math.min(p, 4)).append(" papers ").append(9 - p).append(";");
+        }
+        BackBridge b = Told.of(text + "lets:1=1;takes:((who*5+from)*5+to)-(papers+who)*5;");
+        for (int turn = 0; turn < 2; turn++) {
+            for (int p = 0; p < 6; p++) {
+                for (int r = 0; r < 4; r++) {
+                    int from = Math.min(p, 4);
+                    int to = from == r ? r + 1 : from == r + 1 ? r : -1;
+                    int toll = Math.max(0, (p * 5 + from) * 5 + to - 45);
+                    due("takes", b.takes(p, r), to < 0 ? -5 : toll);
+                    due("why", b.why(p, r), to < 0 ? 2 : toll > 9 - p ? 5 : 0);
+                }
+            }
+        }
     }
 
     private static void people() {

@@ -328,6 +328,11 @@ public final class TraysTest {
         due("restore", b.restore(1), 0);
         due("as it was", b.person(0, 2), 3);
         due("why", b.why(0, 0), 0);
+        due("the tape is read", b.land(9), 1);
+        Told.land(b, "places 3;road 0 to 1 days 7 bridge flood 2;person at 0 papers 3 born 1;lets:been=0;");
+        due("another law", b.why(0, 0), 4);
+        due("restore", b.restore(1), 0);
+        due("its law again", b.why(0, 0), 0);
     }
 
     private static void counts() {

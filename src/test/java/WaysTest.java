@@ -118,6 +118,12 @@ public final class WaysTest {
         due("two left", b.left(1, 3), 2);
         due("one left", b.left(1, 1), 1);
         due("nine", b.left(2, 2), 7);
+        BackBridge d = Told.of("places 2;road 0 to 1 days 1 bridge;road 0 to 1 days 9;person at 0;person at 0;"
+                + "lets:who=1;");
+        due("not this one", d.soonest(0, 1), 9);
+        due("the other one", d.soonest(1, 1), 1);
+        due("ways of this one", d.ways(0, 1, 1), 1);
+        due("ways of the other one", d.ways(1, 1, 1), 2);
         BackBridge c = Told.of("places 2;road 0 to 1 days 1 bridge;person at 0 papers 9;lets:1=1;takes:10;");
         due("more than can be had", c.soonest(0, 1), -1);
     }
