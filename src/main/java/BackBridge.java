@@ -1458,7 +1458,7 @@ public final class BackBridge {
         private static final int ROWS = BEEN_SETS * PAPER_COUNTS;
         private static final int STATES = ROWS * ROW;
         private static final int MASKS = 16;
-        private static final int FAR = Integer.MAX_VALUE;
+        private static final int FAR = 1000000000;
         /** Of 6 places in each of at most 15 rows: 5 new places, 9 papers, and the first. */
         private static final int LONGEST_WAY = 96;
 
@@ -1530,7 +1530,9 @@ public final class BackBridge {
         private void openRow(int row) {
             if (seenIn[row] != turn) {
                 seenIn[row] = turn;
-                Arrays.fill(far, row * ROW, row * ROW + ROW, FAR);
+                for (int place = 0; place < ROW; place++) {
+                    far[row * ROW + place] = FAR;
+                }
             }
         }
 

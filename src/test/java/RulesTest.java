@@ -184,6 +184,16 @@ public final class RulesTest {
         }
 
         @Override
+        public Void visitMemberSelect(MemberSelectTree tree, Void v) {
+            String of = tree.getExpression().toString();
+            if (Set.of("Integer", "Long", "Math", "System", "Arrays", "String", "Character", "Byte").contains(of)
+                    && !LIBRARY.contains(tree.toString())) {
+                wrong("outside the library: " + tree);
+            }
+            return super.visitMemberSelect(tree, v);
+        }
+
+        @Override
         public Void visitNewClass(NewClassTree tree, Void v) {
             if (tree.getClassBody() != null) {
                 wrong("an anonymous class");
