@@ -90,7 +90,7 @@ public final class BackBridge {
     }
 
     public int person(int p, int what) {
-        if (!isPerson(p)) {
+        if (!land.hasPerson(p)) {
             return NO_SUCH;
         }
         switch (what) {
@@ -116,7 +116,7 @@ public final class BackBridge {
     }
 
     public int road(int r, int what) {
-        if (!isRoad(r)) {
+        if (!land.hasRoad(r)) {
             return NO_SUCH;
         }
         switch (what) {
@@ -142,7 +142,7 @@ public final class BackBridge {
     }
 
     public int takes(int p, int r) {
-        if (!isPerson(p) || !isRoad(r)) {
+        if (!land.hasPerson(p) || !land.hasRoad(r)) {
             return NO_SUCH;
         }
         int to = land.across(r, world.place[p]);
@@ -164,7 +164,7 @@ public final class BackBridge {
             return WHY_NOT - whyNot;
         }
         past.keep(before);
-        return isPerson(p) ? world.place[p] : NONE;
+        return land.hasPerson(p) ? world.place[p] : NONE;
     }
 
     public int give(int p, int q, int n) {
@@ -174,7 +174,7 @@ public final class BackBridge {
             return WHY_NOT - whyNot;
         }
         past.keep(before);
-        return isPerson(q) ? world.papers[q] : NONE;
+        return land.hasPerson(q) ? world.papers[q] : NONE;
     }
 
     public int forge(int p) {
@@ -184,7 +184,7 @@ public final class BackBridge {
             return WHY_NOT - whyNot;
         }
         past.keep(before);
-        return isPerson(p) ? world.papers[p] : NONE;
+        return land.hasPerson(p) ? world.papers[p] : NONE;
     }
 
     public int shut(int r) {
@@ -265,7 +265,7 @@ public final class BackBridge {
     // ---- ways
 
     public int soonest(int p, int place) {
-        if (!isPerson(p) || !isPlace(place)) {
+        if (!land.hasPerson(p) || !land.hasPlace(place)) {
             return NO_SUCH;
         }
         choices.seek(p);
@@ -273,7 +273,7 @@ public final class BackBridge {
     }
 
     public int way(int p, int place, int i) {
-        if (!isPerson(p) || !isPlace(place)) {
+        if (!land.hasPerson(p) || !land.hasPlace(place)) {
             return NO_SUCH;
         }
         if (i < 0) {
@@ -285,7 +285,7 @@ public final class BackBridge {
     }
 
     public int left(int p, int place) {
-        if (!isPerson(p) || !isPlace(place)) {
+        if (!land.hasPerson(p) || !land.hasPlace(place)) {
             return NO_SUCH;
         }
         choices.seek(p);
@@ -293,7 +293,7 @@ public final class BackBridge {
     }
 
     public int reach(int p) {
-        if (!isPerson(p)) {
+        if (!land.hasPerson(p)) {
             return NO_SUCH;
         }
         choices.seek(p);
@@ -301,7 +301,7 @@ public final class BackBridge {
     }
 
     public long ways(int p, int place, int n) {
-        if (!isPerson(p) || !isPlace(place)) {
+        if (!land.hasPerson(p) || !land.hasPlace(place)) {
             return NO_SUCH;
         }
         if (n < 0 || n > 9) {
@@ -312,21 +312,21 @@ public final class BackBridge {
     }
 
     public int needed(int p, int place) {
-        if (!isPerson(p) || !isPlace(place)) {
+        if (!land.hasPerson(p) || !land.hasPlace(place)) {
             return NO_SUCH;
         }
         return choices.roadsNeeded(p, place);
     }
 
     public int proofs(int p, int place) {
-        if (!isPerson(p) || !isPlace(place)) {
+        if (!land.hasPerson(p) || !land.hasPlace(place)) {
             return NO_SUCH;
         }
         return choices.fewestPapers(p, place);
     }
 
     public int waives(int p, int place) {
-        if (!isPerson(p) || !isPlace(place)) {
+        if (!land.hasPerson(p) || !land.hasPlace(place)) {
             return NO_SUCH;
         }
         return choices.bestWaiver(p, place);
@@ -339,7 +339,7 @@ public final class BackBridge {
     }
 
     public int spare(int p) {
-        if (!isPerson(p)) {
+        if (!land.hasPerson(p)) {
             return NO_SUCH;
         }
         if (!choices.hasToDo(p)) {
@@ -360,7 +360,7 @@ public final class BackBridge {
     // ---- over as if back
 
     public int loophole(int p) {
-        if (!isPerson(p)) {
+        if (!land.hasPerson(p)) {
             return NO_SUCH;
         }
         choices.seek(p);
@@ -368,7 +368,7 @@ public final class BackBridge {
     }
 
     public int loopWay(int p, int i) {
-        if (!isPerson(p)) {
+        if (!land.hasPerson(p)) {
             return NO_SUCH;
         }
         if (i < 0) {
@@ -380,7 +380,7 @@ public final class BackBridge {
     }
 
     public int round(int p) {
-        if (!isPerson(p)) {
+        if (!land.hasPerson(p)) {
             return NO_SUCH;
         }
         search.startAt(world, p);
@@ -388,7 +388,7 @@ public final class BackBridge {
     }
 
     public int crosses(int p) {
-        if (!isPerson(p)) {
+        if (!land.hasPerson(p)) {
             return NO_SUCH;
         }
         choices.seek(p);
@@ -398,7 +398,7 @@ public final class BackBridge {
     // ---- meeting
 
     public int meet(int p, int q) {
-        if (!isPerson(p) || !isPerson(q) || p == q) {
+        if (!land.hasPerson(p) || !land.hasPerson(q) || p == q) {
             return NO_SUCH;
         }
         int meeting = choices.soonestMeeting(p, q);
@@ -406,7 +406,7 @@ public final class BackBridge {
     }
 
     public int meetAt(int p, int q) {
-        if (!isPerson(p) || !isPerson(q) || p == q) {
+        if (!land.hasPerson(p) || !land.hasPerson(q) || p == q) {
             return NO_SUCH;
         }
         int meeting = choices.soonestMeeting(p, q);
@@ -433,7 +433,7 @@ public final class BackBridge {
     // ---- floods
 
     public long dry(int p, int place, int what) {
-        if (!isPerson(p) || !isPlace(place) || what < 0 || what > 1) {
+        if (!land.hasPerson(p) || !land.hasPlace(place) || what < 0 || what > 1) {
             return NO_SUCH;
         }
         choices.seek(p);
@@ -446,7 +446,7 @@ public final class BackBridge {
     }
 
     public int safest(int p) {
-        if (!isPerson(p)) {
+        if (!land.hasPerson(p)) {
             return NO_SUCH;
         }
         choices.seek(p);
@@ -481,7 +481,7 @@ public final class BackBridge {
     }
 
     public int lists(int tray, int p, int place) {
-        if (!trays.isTray(tray) || !isPerson(p) || !isPlace(place)) {
+        if (!trays.isTray(tray) || !land.hasPerson(p) || !land.hasPlace(place)) {
             return NO_SUCH;
         }
         if (trays.isMissing(tray)) {
@@ -552,18 +552,6 @@ public final class BackBridge {
         }
     }
 
-    private boolean isPerson(int p) {
-        return p >= 0 && p < land.people;
-    }
-
-    private boolean isRoad(int r) {
-        return r >= 0 && r < land.roads;
-    }
-
-    private boolean isPlace(int place) {
-        return place >= 0 && place < land.places;
-    }
-
     /** What a text tells: it stays as it is till another one is read. */
     private static final class Land {
         int places = 2;
@@ -610,6 +598,18 @@ public final class BackBridge {
             System.arraycopy(other.by, 0, by, 0, PEOPLE);
             letsOver.copyFrom(other.letsOver);
             toll.copyFrom(other.toll);
+        }
+
+        boolean hasPerson(int p) {
+            return p >= 0 && p < people;
+        }
+
+        boolean hasRoad(int r) {
+            return r >= 0 && r < roads;
+        }
+
+        boolean hasPlace(int place) {
+            return place >= 0 && place < places;
         }
 
         boolean isBridge(int r) {
@@ -1271,12 +1271,8 @@ public final class BackBridge {
             this.laws = laws;
         }
 
-        private boolean isNobody(int p) {
-            return p < 0 || p >= land.people;
-        }
-
         int whyNotGo(World world, int p, int r) {
-            if (isNobody(p) || r < 0 || r >= land.roads) {
+            if (!land.hasPerson(p) || !land.hasRoad(r)) {
                 return NO_SUCH_ONE;
             }
             int end = land.across(r, world.place[p]);
@@ -1315,7 +1311,7 @@ public final class BackBridge {
         }
 
         int tryGive(World world, int p, int q, int n) {
-            if (isNobody(p) || isNobody(q) || p == q || n < 1 || n > MOST_PAPERS) {
+            if (!land.hasPerson(p) || !land.hasPerson(q) || p == q || n < 1 || n > MOST_PAPERS) {
                 return NO_SUCH_ONE;
             }
             if (world.place[p] != world.place[q] || world.papers[p] < n || world.papers[q] + n > MOST_PAPERS) {
@@ -1327,7 +1323,7 @@ public final class BackBridge {
         }
 
         int tryForge(World world, int p) {
-            if (isNobody(p)) {
+            if (!land.hasPerson(p)) {
                 return NO_SUCH_ONE;
             }
             if (world.papers[p] >= MOST_PAPERS) {
@@ -1339,7 +1335,7 @@ public final class BackBridge {
         }
 
         int tryShut(World world, int r) {
-            if (r < 0 || r >= land.roads) {
+            if (!land.hasRoad(r)) {
                 return NO_SUCH_ONE;
             }
             world.shut ^= 1 << r;
@@ -1955,7 +1951,7 @@ public final class BackBridge {
 
         /** A code, or 0, the sets being found. */
         int weigh(Trays trays, int tray, int p) {
-            if (p < 0 || p >= land.people || !trays.isTray(tray)) {
+            if (!land.hasPerson(p) || !trays.isTray(tray)) {
                 return NO_SUCH;
             }
             if (trays.isMissing(tray)) {
