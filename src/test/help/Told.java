@@ -59,4 +59,37 @@ final class Told {
             due("write " + numbers[i], b.write(tray, i, numbers[i]), numbers[i]);
         }
     }
+
+    /** A text without a fault; the object that has read it. */
+    static BackBridge fine(String text, int lines) {
+        BackBridge b = new BackBridge();
+        due("land of " + text, land(b, text), lines);
+        due("lines of " + text, b.count(10), lines);
+        due("fault of " + text, b.fault(0), 0);
+        due("its place in " + text, b.fault(1), BackBridge.NONE);
+        return b;
+    }
+
+    /** A faulty text, read behind one without a fault, all of which stays. */
+    static void faulty(String text, int kind, int place) {
+        BackBridge b = of("places 5;road 3 to 4 days 7 bridge;person at 3 papers 2 born 4;takes:2;");
+        b.go(0, 0);
+        b.shut(0);
+        due("land of " + text, land(b, text), -30 - kind);
+        due("fault of " + text, b.fault(0), kind);
+        due("its place in " + text, b.fault(1), place);
+        due("the tape behind " + text, b.count(9), 0);
+        int[] counts = {5, 1, 1, 1, 1, 0, 0, 0, 2, 0, 4};
+        for (int what = 0; what < counts.length; what++) {
+            due("count " + what + " behind " + text, b.count(what), counts[what]);
+        }
+        due("place behind " + text, b.person(0, 0), 4);
+        due("day behind " + text, b.person(0, 1), 7);
+        due("undo behind " + text, b.undo(2), 0);
+        due("the law behind " + text, b.takes(0, 0), 2);
+    }
+
+    static String times(int n, String text) {
+        return text.repeat(Math.max(0, n));
+    }
 }

@@ -20,6 +20,7 @@ public final class LandTest {
         faultsAlong();
         nothingOfEarlierLands();
         lawsOfEach();
+        lawsOfEachAlike();
         people();
         roads();
         whyNot();
@@ -112,19 +113,11 @@ public final class LandTest {
     }
 
     private static void faulty(String text, int kind, int place) {
-        BackBridge b = new BackBridge();
-        due("land of " + text, Told.land(b, text), -30 - kind);
-        due("fault of " + text, b.fault(0), kind);
-        due("its place in " + text, b.fault(1), place);
-        due("fault 2", b.fault(2), -1);
-        due("fault -1", b.fault(-1), -1);
+        Told.faulty(text, kind, place);
     }
 
     private static void fine(String text, int lines) {
-        BackBridge b = new BackBridge();
-        due("land of " + text, Told.land(b, text), lines);
-        due("fault of " + text, b.fault(0), 0);
-        due("its place in " + text, b.fault(1), -1);
+        Told.fine(text, lines);
     }
 
     private static void tokensAndGrammar() {
@@ -295,6 +288,34 @@ public final class LandTest {
         }
     }
 
+    /** Each person and each bridge by itself, though all have the same papers and have been at as many places. */
+    private static void lawsOfEachAlike() {
+        String people = Told.times(6, "person at 0;");
+        eachAlike("places 6;road 0 to 1 days 1 bridge;road 2 to 0 days 1 bridge;road 0 to 3 days 1 bridge;"
+                + "road 4 to 0 days 1 bridge;" + people);
+        eachAlike("places 6;road 0 to 1 days 1 bridge;road 0 to 2 days 1 bridge;road 0 to 3 days 1 bridge;"
+                + "road 0 to 4 days 1 bridge;" + people);
+    }
+
+    private static void eachAlike(String land) {
+        for (int who = 0; who < 6; who++) {
+            for (int to = 1; to <= 4; to++) {
+                BackBridge b = Told.of(land + "lets:who=" + who + " and to=" + to + ";takes:0;");
+                BackBridge c = Told.of(land + "lets:1=1;takes:(who-" + who + ")*(who-" + who + ")+(to-" + to + ")*(to-"
+                        + to + ");");
+                for (int turn = 0; turn < 2; turn++) {
+                    for (int p = 0; p < 6; p++) {
+                        for (int r = 0; r < 4; r++) {
+                            boolean same = p == who && r + 1 == to;
+                            due("who is let", b.why(p, r), same ? 0 : 4);
+                            due("who has enough", c.why(p, r), same ? 0 : 5);
+                        }
+                    }
+                }
+            }
+        }
+    }
+
     private static void people() {
         BackBridge b = Told.of(LAND);
         int[][] all = {{0, 0, 2, 1, 0, 1, 13, 0}, {2, 0, 0, 6, 1, -1, -1, 0}, {3, 0, 0, 8, 3, 3, 0, 1}};
@@ -414,12 +435,25 @@ public final class LandTest {
         due("brackets", sum("20-(5-4)"), 19);
         due("brackets times", sum("(2+3)*4"), 20);
         due("long products", sum("2*3*4-1*5+6*2"), 31);
+        due("brackets behind -", sum("9-(2)"), 7);
+        due("brackets behind *", sum("9*(2)"), 18);
+        due("brackets behind +", sum("9+(2)"), 11);
+        due("brackets behind * behind -", sum("99-2*(3)"), 93);
+        due("brackets in brackets", sum("50-(20-(9-(3)))*2"), 22);
         due("and before or", truth("1=1 or 1=1 and 0=1"), 0);
         due("and before or", truth("0=1 and 1=1 or 1=1"), 0);
         due("or in brackets", truth("[1=1 or 1=1] and 0=1"), 4);
         due("not binds a unit", truth("not 0=1 and 0=1"), 4);
         due("not of brackets", truth("not [0=1 and 0=1]"), 0);
         due("not not", truth("not not 1=1"), 0);
+        due("brackets behind or", truth("1=1 or [0=1]"), 0);
+        due("brackets behind or", truth("0=1 or [1=1]"), 0);
+        due("brackets behind and", truth("0=1 and [1=1]"), 4);
+        due("brackets behind and", truth("1=1 and [0=1]"), 4);
+        due("brackets ahead", truth("[0=1] or 1=1 and [1=1 or 0=1]"), 0);
+        due("brackets in brackets", truth("1=1 or [0=1 and [1=1 or [0=1]]]"), 0);
+        due("brackets in brackets", truth("0=1 or [1=1 and [0=1 or [0=1]]]"), 4);
+        due("sums in brackets", truth("1+(2)*(3)=7 and 7-(1+(2-(3)))=7"), 0);
         due("less", truth("1<2"), 0);
         due("less", truth("2<2"), 4);
         due("more", truth("2>1"), 0);
