@@ -81,11 +81,12 @@ public final class RefusedTest {
         for (int i = 0; i < 45; i++) {
             b.feed(0x706c6163, 0x65732034, 0x3b202020, 0x20202020, i == 0 ? 0x20202020 : 0x2020207e);
         }
-        for (int tray = 0; tray < 4; tray++) {
-            b.numbers(tray, 3, 40);
-            for (int i = 0; i < 40; i++) {
-                b.write(tray, i, i % 2 == 0 ? -1 : 3000 + i % 12);
-            }
+        for (int tray = 0; tray < 3; tray++) {
+            Told.tray(b, tray, tray, 100, -1);
+        }
+        b.numbers(3, 3, 40);
+        for (int i = 0; i < 40; i++) {
+            b.write(3, i, i % 2 == 0 ? -1 : 3000 + i % 12);
         }
         return b;
     }

@@ -1,22 +1,34 @@
+import com.sun.source.tree.AssertTree;
+import com.sun.source.tree.BlockTree;
 import com.sun.source.tree.ClassTree;
 import com.sun.source.tree.CompilationUnitTree;
 import com.sun.source.tree.IdentifierTree;
 import com.sun.source.tree.ImportTree;
+import com.sun.source.tree.InstanceOfTree;
 import com.sun.source.tree.LambdaExpressionTree;
 import com.sun.source.tree.MemberReferenceTree;
 import com.sun.source.tree.MemberSelectTree;
 import com.sun.source.tree.MethodInvocationTree;
 import com.sun.source.tree.MethodTree;
+import com.sun.source.tree.NewArrayTree;
 import com.sun.source.tree.NewClassTree;
+import com.sun.source.tree.PrimitiveTypeTree;
+import com.sun.source.tree.SynchronizedTree;
 import com.sun.source.tree.ThrowTree;
 import com.sun.source.tree.Tree;
 import com.sun.source.tree.TryTree;
+import com.sun.source.tree.TypeCastTree;
 import com.sun.source.tree.VariableTree;
 import com.sun.source.util.JavacTask;
 import com.sun.source.util.SourcePositions;
 import com.sun.source.util.TreePathScanner;
 import com.sun.source.util.Trees;
 import java.io.File;
+import java.lang.reflect.Constructor;
+import java.lang.reflect.Field;
+import java.lang.reflect.Method;
+import java.nio.file.Files;
+import java.nio.file.Path;
 import java.util.ArrayDeque;
 import java.util.Deque;
 import java.util.HashMap;
@@ -30,7 +42,7 @@ import javax.tools.JavaCompiler;
 import javax.tools.StandardJavaFileManager;
 import javax.tools.ToolProvider;
 
-/** Those rules of the language that can be seen from the source: LANGUAGE.md, rules 1, 2, 4, 5, 6, 11. */
+/** Those rules of the language that can be seen from the source: LANGUAGE.md, rules 1, 2, 4, 5, 6, 11, 12. */
 public final class RulesTest {
     private static final Set<String> FACE = Set.of("feed", "land", "fault", "person", "road", "why", "takes", "go",
             "give", "forge", "shut", "days", "undo", "judge", "perform", "year", "soonest", "way", "left", "reach",
@@ -45,6 +57,7 @@ public final class RulesTest {
     private static final Set<String> OUTSIDE = new TreeSet<>();
 
     public static void main(String[] args) throws Exception {
+        faceOfTheDocument();
         JavaCompiler compiler = ToolProvider.getSystemJavaCompiler();
         try (StandardJavaFileManager files = compiler.getStandardFileManager(null, null, null)) {
             JavacTask task = (JavacTask) compiler.getTask(null, files, null, List.of("-proc:none"), null,
@@ -67,6 +80,44 @@ public final class RulesTest {
             }
         }
         Told.end();
+    }
+
+    /** Each public line of the document's face, and no other. */
+    private static void faceOfTheDocument() throws Exception {
+        Set<String> told = new TreeSet<>();
+        for (String line : Files.readAllLines(Path.of("../shared/DOC.md"))) {
+            if (line.startsWith("    public ")) {
+                told.add(line.strip().replaceAll("(int|long) [a-z]+([,)])", "$1$2"));
+            }
+        }
+        Set<String> there = new TreeSet<>();
+        for (Field field : BackBridge.class.getFields()) {
+            there.add("public static final " + field.getType() + " " + field.getName() + " = " + field.getInt(null) + ";");
+        }
+        for (Constructor<?> made : BackBridge.class.getConstructors()) {
+            there.add("public BackBridge(" + types(made.getParameterTypes()) + ");");
+        }
+        for (Method method : BackBridge.class.getDeclaredMethods()) {
+            if (java.lang.reflect.Modifier.isPublic(method.getModifiers())) {
+                there.add("public " + method.getReturnType() + " " + method.getName() + "("
+                        + types(method.getParameterTypes()) + ");");
+            }
+        }
+        Told.due("lines of the face", told.size(), FACE.size() + 1);
+        for (String line : told) {
+            Told.due("the face lacks " + line, there.contains(line) ? 0 : 1, 0);
+        }
+        for (String line : there) {
+            Told.due("beside the face " + line, told.contains(line) ? 0 : 1, 0);
+        }
+    }
+
+    private static String types(Class<?>[] types) {
+        StringBuilder s = new StringBuilder();
+        for (Class<?> type : types) {
+            s.append(s.length() == 0 ? "" : ", ").append(type);
+        }
+        return s.toString();
     }
 
     /** Calls by name that stand open at once; one that stands open already is recursion. */
@@ -124,6 +175,12 @@ public final class RulesTest {
             }
             int fields = 0;
             for (Tree member : tree.getMembers()) {
+                if (member instanceof BlockTree) {
+                    wrong("a block beside methods in " + tree.getSimpleName());
+                }
+                if (member instanceof MethodTree method) {
+                    checkFace(classes, method.getName().toString(), method.getModifiers().getFlags());
+                }
                 if (member instanceof VariableTree field) {
                     boolean constant = field.getModifiers().getFlags().contains(Modifier.STATIC);
                     fields += constant ? 0 : 1;
@@ -193,12 +250,50 @@ public final class RulesTest {
             return super.visitMemberSelect(tree, v);
         }
 
+        /** Stronger than rule 12: calls use what constructors made. */
         @Override
         public Void visitNewClass(NewClassTree tree, Void v) {
             if (tree.getClassBody() != null) {
                 wrong("an anonymous class");
             }
+            if (!methods.isEmpty() && !methods.peek().equals("<init>")) {
+                wrong("an object made by a call: " + methods.peek());
+            }
             return super.visitNewClass(tree, v);
+        }
+
+        @Override
+        public Void visitNewArray(NewArrayTree tree, Void v) {
+            if (!methods.isEmpty() && !methods.peek().equals("<init>")) {
+                wrong("a row made by a call: " + methods.peek());
+            }
+            return super.visitNewArray(tree, v);
+        }
+
+        @Override
+        public Void visitTypeCast(TypeCastTree tree, Void v) {
+            if (!(tree.getType() instanceof PrimitiveTypeTree)) {
+                wrong("a cast among objects: " + tree);
+            }
+            return super.visitTypeCast(tree, v);
+        }
+
+        @Override
+        public Void visitInstanceOf(InstanceOfTree tree, Void v) {
+            wrong("instanceof: none is needed");
+            return null;
+        }
+
+        @Override
+        public Void visitAssert(AssertTree tree, Void v) {
+            wrong("assert");
+            return null;
+        }
+
+        @Override
+        public Void visitSynchronized(SynchronizedTree tree, Void v) {
+            wrong("synchronized");
+            return null;
         }
 
         @Override
