@@ -596,8 +596,8 @@ public final class BackBridge {
             System.arraycopy(other.papers, 0, papers, 0, PEOPLE);
             System.arraycopy(other.errand, 0, errand, 0, PEOPLE);
             System.arraycopy(other.by, 0, by, 0, PEOPLE);
-            letsOver.copyFrom(other.letsOver);
-            toll.copyFrom(other.toll);
+            letsOver.copyLaw(other.letsOver);
+            toll.copyLaw(other.toll);
         }
 
         boolean hasPerson(int p) {
@@ -660,7 +660,7 @@ public final class BackBridge {
         final int[] stack = new int[STACK];
         int size;
 
-        void copyFrom(Law other) {
+        void copyLaw(Law other) {
             size = other.size;
             System.arraycopy(other.code, 0, code, 0, size);
         }

@@ -1,7 +1,11 @@
 import com.sun.source.tree.AssertTree;
+import com.sun.source.tree.BinaryTree;
 import com.sun.source.tree.BlockTree;
 import com.sun.source.tree.ClassTree;
 import com.sun.source.tree.CompilationUnitTree;
+import com.sun.source.tree.DoWhileLoopTree;
+import com.sun.source.tree.EnhancedForLoopTree;
+import com.sun.source.tree.ForLoopTree;
 import com.sun.source.tree.IdentifierTree;
 import com.sun.source.tree.ImportTree;
 import com.sun.source.tree.InstanceOfTree;
@@ -19,6 +23,7 @@ import com.sun.source.tree.Tree;
 import com.sun.source.tree.TryTree;
 import com.sun.source.tree.TypeCastTree;
 import com.sun.source.tree.VariableTree;
+import com.sun.source.tree.WhileLoopTree;
 import com.sun.source.util.JavacTask;
 import com.sun.source.util.SourcePositions;
 import com.sun.source.util.TreePathScanner;
@@ -42,7 +47,7 @@ import javax.tools.JavaCompiler;
 import javax.tools.StandardJavaFileManager;
 import javax.tools.ToolProvider;
 
-/** Those rules of the language that can be seen from the source: LANGUAGE.md, rules 1, 2, 4, 5, 6, 11, 12. */
+/** Those rules of the language that can be seen from the source: LANGUAGE.md, rules 1 to 6, 8 to 12. */
 public final class RulesTest {
     private static final Set<String> FACE = Set.of("feed", "land", "fault", "person", "road", "why", "takes", "go",
             "give", "forge", "shut", "days", "undo", "judge", "perform", "year", "soonest", "way", "left", "reach",
@@ -52,12 +57,19 @@ public final class RulesTest {
     private static final Set<String> LIBRARY = Set.of("Arrays.fill", "System.arraycopy", "Math.max", "Math.min",
             "Integer.bitCount", "Long.bitCount", "length", "charAt", "indexOf");
 
+    /** The reader's methods that carry their depth. */
+    private static final Set<String> RECURSIVE = Set.of("truth", "unit", "sum", "atom");
+    private static final Set<String> NUMBERS = Set.of("int", "long", "byte", "boolean", "void", "String");
+
     private static final Map<String, Set<String>> CALLS = new HashMap<>();
     private static final Set<String> OWN = new HashSet<>();
     private static final Set<String> OUTSIDE = new TreeSet<>();
+    private static final Set<String> TYPES = new TreeSet<>();
+    private static final Set<String> CLASSES = new HashSet<>();
 
     public static void main(String[] args) throws Exception {
         faceOfTheDocument();
+        signsOfTheSource();
         JavaCompiler compiler = ToolProvider.getSystemJavaCompiler();
         try (StandardJavaFileManager files = compiler.getStandardFileManager(null, null, null)) {
             JavacTask task = (JavacTask) compiler.getTask(null, files, null, List.of("-proc:none"), null,
@@ -71,6 +83,16 @@ public final class RulesTest {
             String name = call.substring(call.indexOf('.') + 1);
             if (!OWN.contains(name) && !LIBRARY.contains(call) && !LIBRARY.contains(name)) {
                 Told.due("a call outside the library: " + call, 1, 0);
+            }
+        }
+        for (String name : CALLS.keySet()) {
+            if (!RECURSIVE.contains(name) && callsItself(name)) {
+                Told.due("recursion in " + name, 1, 0);
+            }
+        }
+        for (String type : TYPES) {
+            if (!CLASSES.contains(type)) {
+                Told.due("a type outside the rules: " + type, 1, 0);
             }
         }
         for (String name : FACE) {
@@ -112,6 +134,12 @@ public final class RulesTest {
         }
     }
 
+    private static void signsOfTheSource() throws Exception {
+        for (byte sign : Files.readAllBytes(Path.of("src/main/java/BackBridge.java"))) {
+            Told.due("a sign of the source that is not plain: " + sign, sign == 10 || sign >= 32 && sign < 127 ? 1 : 0, 1);
+        }
+    }
+
     private static String types(Class<?>[] types) {
         StringBuilder s = new StringBuilder();
         for (Class<?> type : types) {
@@ -134,6 +162,18 @@ public final class RulesTest {
         }
         open.pop();
         return deepest + 1;
+    }
+
+    private static boolean callsItself(String name) {
+        Set<String> reached = new HashSet<>();
+        Deque<String> open = new ArrayDeque<>(CALLS.getOrDefault(name, Set.of()));
+        while (!open.isEmpty()) {
+            String called = open.pop();
+            if (OWN.contains(called) && reached.add(called)) {
+                open.addAll(CALLS.getOrDefault(called, Set.of()));
+            }
+        }
+        return reached.contains(name);
     }
 
     private static final class Scan extends TreePathScanner<Void, Void> {
@@ -166,6 +206,7 @@ public final class RulesTest {
         @Override
         public Void visitClass(ClassTree tree, Void v) {
             classes++;
+            CLASSES.add(tree.getSimpleName().toString());
             Set<Modifier> flags = tree.getModifiers().getFlags();
             if (classes > 12) {
                 wrong("too many classes: " + tree.getSimpleName());
@@ -196,6 +237,65 @@ public final class RulesTest {
             return super.visitClass(tree, v);
         }
 
+        /** Numbers, texts, own classes; rows of these, and rows of rows of numbers. */
+        private void checkType(Tree tree) {
+            String type = tree == null ? "void" : tree.toString();
+            String of = type.replace("[]", "");
+            int rows = (type.length() - of.length()) / 2;
+            if (!NUMBERS.contains(of)) {
+                TYPES.add(of);
+            }
+            if (rows > 2 || rows == 2 && !Set.of("int", "long", "byte").contains(of)) {
+                wrong("rows of rows: " + type);
+            }
+        }
+
+        @Override
+        public Void visitVariable(VariableTree tree, Void v) {
+            checkType(tree.getType());
+            return super.visitVariable(tree, v);
+        }
+
+        @Override
+        public Void visitBinary(BinaryTree tree, Void v) {
+            boolean text = tree.getLeftOperand().getKind() == Tree.Kind.STRING_LITERAL
+                    || tree.getRightOperand().getKind() == Tree.Kind.STRING_LITERAL;
+            if (text) {
+                wrong("texts joined or compared by a sign: " + tree);
+            }
+            return super.visitBinary(tree, v);
+        }
+
+        /** A counter against a bound: stronger than rule 9. */
+        @Override
+        public Void visitForLoop(ForLoopTree tree, Void v) {
+            String end = tree.getCondition() == null ? "" : tree.getCondition().toString();
+            if (tree.getUpdate().isEmpty() || !end.matches(".*[<>].*")) {
+                wrong("a loop whose end is not seen: for " + end);
+            }
+            return super.visitForLoop(tree, v);
+        }
+
+        @Override
+        public Void visitWhileLoop(WhileLoopTree tree, Void v) {
+            if (!tree.getCondition().toString().matches("\\(\\w+ < \\w+ && .*")) {
+                wrong("a loop whose end is not seen: while " + tree.getCondition());
+            }
+            return super.visitWhileLoop(tree, v);
+        }
+
+        @Override
+        public Void visitDoWhileLoop(DoWhileLoopTree tree, Void v) {
+            wrong("do: none is needed");
+            return null;
+        }
+
+        @Override
+        public Void visitEnhancedForLoop(EnhancedForLoopTree tree, Void v) {
+            wrong("for over a row: none is needed");
+            return null;
+        }
+
         private void checkFace(int inClass, String name, Set<Modifier> flags) {
             if (inClass == 1 && !flags.contains(Modifier.PRIVATE) && !name.equals("NONE") && !FACE.contains(name)) {
                 wrong("a member beside the face: " + name);
@@ -208,6 +308,7 @@ public final class RulesTest {
             Set<Modifier> flags = tree.getModifiers().getFlags();
             boolean inFace = flags.contains(Modifier.PUBLIC);
             OWN.add(name);
+            checkType(tree.getReturnType());
             if (FACE.contains(name) && !inFace && !name.equals("<init>")) {
                 wrong("a method named as one of the face: " + name);
             }
